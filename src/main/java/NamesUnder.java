@@ -56,7 +56,7 @@ public final class NamesUnder {
         book = new StoryBook(names, walls, dates);
         orders = new Order[REIGNS];
         for (int i = 0; i < REIGNS; i++) {
-            orders[i] = new Order();
+            orders[i] = new Order(0);
         }
         reader = new OrderReader(tape, names);
         run = new Run(names, walls, orders);
@@ -183,6 +183,7 @@ public final class NamesUnder {
                 book.tally();
                 return book.total;
             case 1:
+                book.tally();
                 return book.sureHands();
             case 2:
                 book.gatherAll();
@@ -196,6 +197,7 @@ public final class NamesUnder {
         if (!isBusyHand(hand) || k < 0) {
             return NONE;
         }
+        book.tally();
         return book.seek(k) ? book.reignOf[hand] : NONE;
     }
 
@@ -222,6 +224,7 @@ public final class NamesUnder {
         if (!isBelow(what, 2)) {
             return NONE;
         }
+        book.tally();
         int hand = book.handToDate();
         if (hand == NONE || what == 0) {
             return hand;
@@ -238,7 +241,7 @@ public final class NamesUnder {
         if (isBelow(reign, REIGNS)) {
             answer = reader.read();
             if (answer == 0) {
-                orders[reign] = reader.swap(orders[reign]);
+                orders[reign].copy(reader.sheet);
                 run.forget();
             }
         }
@@ -607,7 +610,7 @@ public final class NamesUnder {
             }
         }
 
-        private static int widthOf(char letter) {
+        private static int widthOf(int letter) {
             switch (letter) {
                 case 'f':
                 case 'i':
@@ -896,8 +899,7 @@ public final class NamesUnder {
                     raise(hand, least + 1);
                 } else {
                     boolean bare = less && layer == size - 1;
-                    least = bare && size < wall.size && layer == wall.size - 2
-                            ? leastReignBare[place] : leastReign[place * LAYERS + layer];
+                    least = bare ? leastReignBare[place] : leastReign[place * LAYERS + layer];
                     barred = barred || least == REIGNS;
                     raise(hand, doing == MENDED ? 0 : least);
                 }
@@ -994,10 +996,6 @@ public final class NamesUnder {
 
         private int highest(int hand) {
             int high = ceiling[hand];
-            int own = step[hand * HANDS + hand];
-            if (own == 1) {
-                return NONE;
-            }
             for (int i = 0; i < hand; i++) {
                 int by = step[hand * HANDS + i];
                 if (by != NONE) {
@@ -1007,9 +1005,8 @@ public final class NamesUnder {
             return high;
         }
 
-        /** Puts the k-th STORY into reignOf, if there is one. */
+        /** Puts the k-th STORY into reignOf, if there is one; the STORIES have to be counted. */
         boolean seek(int k) {
-            tally();
             if (k < 0 || k >= total) {
                 return false;
             }
@@ -1052,7 +1049,6 @@ public final class NamesUnder {
         }
 
         int sureHands() {
-            tally();
             int bits = 0;
             for (int i = 0; i < HANDS; i++) {
                 if (total > 0 && isBusy(i) && mostOf(i) == total) {
@@ -1072,7 +1068,6 @@ public final class NamesUnder {
         }
 
         int handToDate() {
-            tally();
             int best = NONE;
             for (int i = 0; i < HANDS; i++) {
                 boolean open = total > 0 && isBusy(i) && dates[i] == NONE;
@@ -1188,7 +1183,11 @@ public final class NamesUnder {
         final int[] target = new int[LINES];
         final int[] from = new int[LINES];
         final int[] upto = new int[LINES];
-        final int[] code = new int[TAPE_SIGNS];
+        int[] code;
+
+        Order(int room) {
+            code = new int[Math.max(0, room)];
+        }
 
         void clear() {
             lines = 0;
@@ -1196,17 +1195,31 @@ public final class NamesUnder {
         }
 
         void addCode(int sign) {
-            if (codeSize < TAPE_SIGNS) {
+            if (codeSize < code.length) {
                 code[codeSize] = sign;
                 codeSize++;
             }
+        }
+
+        /** The row of code grows only with what was fed, which keeps a new object small. */
+        void copy(Order other) {
+            lines = other.lines;
+            codeSize = other.codeSize;
+            if (code.length < codeSize) {
+                code = new int[codeSize];
+            }
+            System.arraycopy(other.code, 0, code, 0, codeSize);
+            System.arraycopy(other.doing, 0, doing, 0, LINES);
+            System.arraycopy(other.target, 0, target, 0, LINES);
+            System.arraycopy(other.from, 0, from, 0, LINES);
+            System.arraycopy(other.upto, 0, upto, 0, LINES);
         }
     }
 
     /** Kinds of TOKENS; WORDS have the number of their cell in the table. */
     private static final class Kind {
-        static final String WORDS = "out     hack    put     mend    when    and     or      not     "
-                + "height  space   sort    width   place   cuts    stands  ";
+        /** Each WORD in a cell of eight signs. */
+        static final String WORDS = "out     hack    put     mend    when    and     or      not     height  space   sort    width   place   cuts    stands  ";
         static final int WORD_NUMBER = 15;
         static final int MEND = 3;
         static final int WHEN = 4;
@@ -1241,7 +1254,7 @@ public final class NamesUnder {
         static final int DIGITS = 4;
         final Tape tape;
         final NameList names;
-        Order sheet = new Order();
+        final Order sheet = new Order(TAPE_SIGNS);
         int at = 0;
         int kind = Kind.END;
         int start = 0;
@@ -1259,30 +1272,14 @@ public final class NamesUnder {
             at = 0;
             fault = 0;
             advance();
-            return readLines() ? 0 : fault;
-        }
-
-        /** Hands out the sheet and takes another one to write on. */
-        Order swap(Order used) {
-            Order written = sheet;
-            sheet = used;
-            return written;
+            for (int line = 0; line <= Order.LINES && kind != Kind.END && fault == 0; line++) {
+                readLine(line);
+            }
+            return fault;
         }
 
         private boolean refuse(int faultKind) {
             fault = faultKind + 16 * start;
-            return false;
-        }
-
-        private boolean readLines() {
-            for (int line = 0; line <= Order.LINES; line++) {
-                if (kind == Kind.END) {
-                    return true;
-                }
-                if (!readLine(line)) {
-                    return false;
-                }
-            }
             return false;
         }
 
@@ -1332,7 +1329,7 @@ public final class NamesUnder {
 
         private boolean readTests(int within) {
             boolean sound = readTest(within);
-            while (sound && at <= tape.length && (kind == Kind.AND || kind == Kind.OR)) {
+            for (int i = 0; i < TAPE_SIGNS && sound && (kind == Kind.AND || kind == Kind.OR); i++) {
                 int joint = kind;
                 advance();
                 sound = readTest(within);
@@ -1354,7 +1351,7 @@ public final class NamesUnder {
 
         private boolean readSum(int within) {
             boolean sound = readProduct(within);
-            while (sound && at <= tape.length && (kind == Kind.PLUS || kind == Kind.MINUS)) {
+            for (int i = 0; i < TAPE_SIGNS && sound && (kind == Kind.PLUS || kind == Kind.MINUS); i++) {
                 int joint = kind;
                 advance();
                 sound = readProduct(within);
@@ -1365,7 +1362,7 @@ public final class NamesUnder {
 
         private boolean readProduct(int within) {
             boolean sound = readPart(within);
-            while (sound && at <= tape.length && kind == Kind.TIMES) {
+            for (int i = 0; i < TAPE_SIGNS && sound && kind == Kind.TIMES; i++) {
                 advance();
                 sound = readPart(within);
                 sheet.addCode(Kind.TIMES);
@@ -1459,7 +1456,7 @@ public final class NamesUnder {
             kind = at - start > DIGITS ? Kind.NOTHING : Kind.NUMBER;
         }
 
-        private static int kindOfSign(char sign) {
+        private static int kindOfSign(int sign) {
             switch (sign) {
                 case '(':
                     return Kind.OPEN;

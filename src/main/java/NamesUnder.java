@@ -1252,6 +1252,12 @@ public final class NamesUnder {
     private static final class OrderReader {
         static final int DEPTH = 5;
         static final int DIGITS = 4;
+        static final int RANK_AND = 1;
+        static final int RANK_LESS = 2;
+        static final int RANK_PLUS = 3;
+        static final int RANK_TIMES = 4;
+        /** Far above what can wait: a sign of each rank at each depth, and what encloses them. */
+        static final int HELD = 64;
         final Tape tape;
         final NameList names;
         final Order sheet = new Order(TAPE_SIGNS);
@@ -1260,6 +1266,11 @@ public final class NamesUnder {
         int start = 0;
         int value = 0;
         int fault = 0;
+        final int[] held = new int[HELD];
+        int waiting = 0;
+        /** How many of not and ( ) are open. */
+        int within = 0;
+        boolean partNext = true;
 
         OrderReader(Tape theTape, NameList nameList) {
             tape = theTape;
@@ -1300,13 +1311,10 @@ public final class NamesUnder {
             }
             advance();
             sheet.from[line] = sheet.codeSize;
-            if (!readTests(0)) {
+            if (!readWhen()) {
                 return false;
             }
             sheet.upto[line] = sheet.codeSize;
-            if (kind != Kind.STOP) {
-                return refuse(1);
-            }
             sheet.lines = line + 1;
             advance();
             return true;
@@ -1327,50 +1335,26 @@ public final class NamesUnder {
             return true;
         }
 
-        private boolean readTests(int within) {
-            boolean sound = readTest(within);
-            for (int i = 0; i < TAPE_SIGNS && sound && (kind == Kind.AND || kind == Kind.OR); i++) {
-                int joint = kind;
-                advance();
-                sound = readTest(within);
-                sheet.addCode(joint);
+        /** Reads E up to the stop behind it; signs wait until both their parts are read. */
+        private boolean readWhen() {
+            waiting = 0;
+            within = 0;
+            partNext = true;
+            boolean sound = true;
+            for (int i = 0; i <= TAPE_SIGNS && sound && (partNext || kind != Kind.STOP); i++) {
+                sound = partNext ? takePart() : takeJoint();
+                if (sound) {
+                    advance();
+                }
             }
-            return sound;
+            if (!sound) {
+                return false;
+            }
+            release(RANK_AND);
+            return waiting == 0 || refuse(1);
         }
 
-        private boolean readTest(int within) {
-            boolean sound = readSum(within);
-            if (sound && (kind == Kind.LESS || kind == Kind.EQUAL)) {
-                int joint = kind;
-                advance();
-                sound = readSum(within);
-                sheet.addCode(joint);
-            }
-            return sound;
-        }
-
-        private boolean readSum(int within) {
-            boolean sound = readProduct(within);
-            for (int i = 0; i < TAPE_SIGNS && sound && (kind == Kind.PLUS || kind == Kind.MINUS); i++) {
-                int joint = kind;
-                advance();
-                sound = readProduct(within);
-                sheet.addCode(joint);
-            }
-            return sound;
-        }
-
-        private boolean readProduct(int within) {
-            boolean sound = readPart(within);
-            for (int i = 0; i < TAPE_SIGNS && sound && kind == Kind.TIMES; i++) {
-                advance();
-                sound = readPart(within);
-                sheet.addCode(Kind.TIMES);
-            }
-            return sound;
-        }
-
-        private boolean readPart(int within) {
+        private boolean takePart() {
             boolean fact = kind >= Kind.HEIGHT && kind <= Kind.STANDS;
             boolean simple = fact || kind == Kind.NUMBER;
             if (!simple && kind != Kind.NOT && kind != Kind.OPEN) {
@@ -1381,29 +1365,85 @@ public final class NamesUnder {
             }
             if (simple) {
                 sheet.addCode(fact ? kind : kind + Kind.CODE_STEP * value);
-                advance();
-                return true;
+                endPart();
+            } else {
+                hold(kind);
+                within++;
             }
-            boolean denied = kind == Kind.NOT;
-            advance();
-            return denied ? readDenied(within + 1) : readEnclosed(within + 1);
+            return true;
         }
 
-        private boolean readDenied(int within) {
-            boolean sound = readPart(within);
-            sheet.addCode(Kind.NOT);
-            return sound;
-        }
-
-        private boolean readEnclosed(int within) {
-            if (!readTests(within)) {
-                return false;
+        private boolean takeJoint() {
+            if (kind == Kind.CLOSE) {
+                return close();
             }
-            if (kind != Kind.CLOSE) {
+            int rank = rankOf(kind);
+            if (rank == 0) {
                 return refuse(1);
             }
-            advance();
+            // A second < or = finds the first one still waiting: a TEST has but one.
+            release(rank == RANK_LESS ? rank + 1 : rank);
+            if (rank == RANK_LESS && waiting > 0 && rankOf(held[waiting - 1]) == RANK_LESS) {
+                return refuse(1);
+            }
+            hold(kind);
+            partNext = true;
             return true;
+        }
+
+        private boolean close() {
+            release(RANK_AND);
+            if (waiting == 0) {
+                return refuse(1);
+            }
+            waiting--;
+            within--;
+            endPart();
+            return true;
+        }
+
+        /** A PART is read: each not right ahead of it has what it denies. */
+        private void endPart() {
+            partNext = false;
+            for (int i = waiting; i > 0 && held[i - 1] == Kind.NOT; i--) {
+                sheet.addCode(Kind.NOT);
+                waiting--;
+                within--;
+            }
+        }
+
+        private void hold(int sign) {
+            if (waiting < HELD) {
+                held[waiting] = sign;
+                waiting++;
+            }
+        }
+
+        /** Signs that bind as this rank does or closer have both their parts. */
+        private void release(int rank) {
+            for (int i = waiting; i > 0 && rankOf(held[i - 1]) >= rank; i--) {
+                sheet.addCode(held[i - 1]);
+                waiting--;
+            }
+        }
+
+        /** How close a sign binds; 0: it joins nothing. */
+        private static int rankOf(int sign) {
+            switch (sign) {
+                case Kind.AND:
+                case Kind.OR:
+                    return RANK_AND;
+                case Kind.LESS:
+                case Kind.EQUAL:
+                    return RANK_LESS;
+                case Kind.PLUS:
+                case Kind.MINUS:
+                    return RANK_PLUS;
+                case Kind.TIMES:
+                    return RANK_TIMES;
+                default:
+                    return 0;
+            }
         }
 
         /** Goes on to the next TOKEN. */

@@ -1283,10 +1283,11 @@ public final class NamesUnder {
             at = 0;
             fault = 0;
             advance();
-            for (int line = 0; line <= Order.LINES && kind != Kind.END && fault == 0; line++) {
-                readLine(line);
+            boolean sound = true;
+            for (int line = 0; line <= Order.LINES && sound && kind != Kind.END; line++) {
+                sound = readLine(line);
             }
-            return fault;
+            return sound ? 0 : fault;
         }
 
         private boolean refuse(int faultKind) {

@@ -46,6 +46,7 @@ public final class FarAndBlocksTest {
         x.clean(0);
         Check.same("27: stands again", x.far(1, 0, 1), 10);
         Check.same("27: sorts left", x.far(1, 0, 3), 7);
+        Check.same("27: sorts done", x.far(1, 0, 2), 2);
         Check.same("27: at height 0", zeroHeight(), 0);
     }
 
@@ -81,6 +82,10 @@ public final class FarAndBlocksTest {
     /** Whether a BLOCK fits a GAP of EDGES 5 and 6 and course 1. */
     private static void fit(int left, int right, int course, boolean so) {
         NamesUnder x = new NamesUnder();
+        x.block(true, 3, 5, 6, 1);
+        x.block(false, 1, left, right, course);
+        Check.same("29: of block 1 " + left + " " + right + " " + course, x.ways(0), so ? 1 : 0);
+        x = new NamesUnder();
         x.block(true, 3, 5, 6, 1);
         x.block(false, 2, left, right, course);
         Check.same("29: " + left + " " + right + " " + course, x.ways(0), so ? 1 : 0);

@@ -45,6 +45,10 @@ public final class NamesTest {
         Check.same("2: count", x.count(6), 1000);
         Check.same("2: a long word", x.name(0, 0, false), 1);
         Check.same("2: taken", x.count(6), 0);
+        Signs.feed(x, " ".repeat(1000));
+        Check.same("3: 1,000 blanks", x.name(0, 0, false), 1);
+        Signs.feed(x, " ".repeat(992) + "ramesses");
+        Check.same("3: behind 992 blanks", x.name(0, 0, false), 0);
         Check.same("2: from the start again", x.feed(a, 0, 0), 8);
     }
 

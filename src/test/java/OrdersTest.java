@@ -89,6 +89,7 @@ public final class OrdersTest {
         fault("out 0 when 1;;", 1, 13);
         fault("; out 0 when 1;", 1, 0);
         fault("7", 1, 0);
+        fault("when 0 when 1;", 1, 0);
     }
 
     private static void noTokens() {
@@ -194,6 +195,21 @@ public final class OrdersTest {
         when("1 and 2<3+4*(1 and 2<3+4*(1 and 2<3+4*(1 and 2<3+4*(1 and 2<3+4*5))))", true);
     }
 
+    private static void fullTape() {
+        when("1" + "+1".repeat(490) + "=491", true);
+        when("0" + "+0".repeat(490) + "<491", true);
+        NamesUnder x = walled(0);
+        Check.same("21: 1,000 signs", order(x, 0, "out0when1" + "+1".repeat(495) + ";"), 0);
+        Check.same("23: done", x.ran(4, 0), 2);
+        Check.same("21: a short one in place of it", order(x, 0, "out0when 0;"), 0);
+        Check.same("23: not done", x.ran(4, 0), 1);
+        Check.same("21: the stop is beyond", order(x, 0, "out 0 when1" + "+1".repeat(495) + ";"), 1 + 16 * 1000);
+        Check.same("21: 1,000 blanks", order(x, 0, " ".repeat(1000)), 0);
+        Check.same("21: no lines", x.count(3), 0);
+        Check.same("21: 1,000 letters", order(x, 0, "o".repeat(1000)), 1);
+        Check.same("21: 1,000 digits", order(x, 0, "out 0 when " + "9".repeat(989)), 1 + 16 * 11);
+    }
+
     private static void sensePastOut() {
         NamesUnder x = walled(0);
         order(x, 0, "out 0 when 1;put 2 when stands=99 and width=0 and cuts=2;hack 2 when width=5 and stands=2 and cuts=3;");
@@ -218,6 +234,9 @@ public final class OrdersTest {
         Check.same("22: wrong ones change nothing", x.ran(4, 5), 2);
         x.place(4, 7, 99, 2, 0);
         x.cut(4, 0, 0, 0);
+        Check.same("22: 99 for the most height", x.ran(4, 5), 2);
+        order(x, 1, "");
+        order(x, 2, "out 0 when 1;");
         Check.same("22: 99 at first", x.ran(4, 5), 2);
     }
 
@@ -366,6 +385,10 @@ public final class OrdersTest {
         Check.same("23: and the first one narrow", x.ran(4, 5), 1);
         x.place(4, 7, 30, 2, 0);
         Check.same("23: cuts gone", x.ran(4, 5), 0);
+        x.cut(4, 0, 0, 0);
+        Check.same("23: a cut again", x.ran(4, 5), 1);
+        x.clean(4);
+        Check.same("23: gone again", x.ran(4, 5), 0);
     }
 
     public static void main(String[] args) {
@@ -375,6 +398,7 @@ public final class OrdersTest {
         otherKinds();
         wrongReign();
         sense();
+        fullTape();
         sensePastOut();
         works();
         slips();

@@ -183,6 +183,24 @@ public final class StoriesTest {
         Check.same("17: the same", x.between(4, 1), 2);
     }
 
+    private static void changesAreSeen() {
+        NamesUnder x = named();
+        x.place(0, 6, 0, 0, 0);
+        Check.same("14: without cuts", x.stories(0), 1);
+        x.cut(0, 2, 0, 0);
+        Check.same("14: a cut", x.stories(0), 4);
+        x.cut(0, 4, 1, -1);
+        Check.same("14: another cut", x.stories(0), 9);
+        x.clean(0);
+        Check.same("14: the cut is gone", x.stories(0), 4);
+        Check.same("14: and its hand", x.stories(2), 4);
+        Signs.feed(x, "seti");
+        x.name(0, 1, false);
+        Check.same("14: the name of another reign", x.stories(0), 5);
+        x.place(0, 6, 0, 0, 0);
+        Check.same("14: the place anew", x.stories(0), 1);
+    }
+
     private static void noNameFits() {
         NamesUnder x = named();
         wall(x, 0, cut(0, 0, 2));
@@ -190,6 +208,8 @@ public final class StoriesTest {
         Check.same("20: without it", x.doubt(), 1);
         wall(x, 0, cut(0, 0, 1), cut(0, 2, -1), cut(1, 3, 2));
         Check.same("14: put in too wide", x.stories(0), 0);
+        wall(x, 0, cut(0, 0, -1), cut(1, 1, -1), cut(2, 4, 2));
+        Check.same("14: mended too wide", x.stories(0), 0);
         wall(x, 0, cut(0, 0, 1), cut(1, 1, -1), cut(2, 4, -1));
         Check.same("14: sound", x.stories(0), 30);
         Signs.feed(x, "s...");
@@ -242,6 +262,13 @@ public final class StoriesTest {
         Check.same("18: nothing over it", x.stood(0, 0), 2);
         x.dated(0, -1);
         Check.same("18: nothing over it", x.stood(0, 0), 3);
+        x.cut(0, 1, 1, -1);
+        Signs.feed(x, "..t.");
+        x.traces(0, 0);
+        Check.same("18: by its traces", x.stood(0, 0), 3);
+        Signs.feed(x, "t...");
+        x.traces(0, 0);
+        Check.same("18: by its traces", x.stood(0, 0), 2);
     }
 
     private static void stoodMended() {
@@ -263,6 +290,12 @@ public final class StoriesTest {
     private static void doubtOfTwo() {
         NamesUnder x = named();
         wall(x, 0, cut(0, 0, 2));
+        wall(x, 1, cut(3, 0, 2));
+        Check.same("20: two", x.doubt(), 3);
+        Check.same("20: hands as before", x.stories(2), 9);
+        Check.same("20: no story as before", x.stories(0), 0);
+        Check.same("20: nothing between them as before", x.between(0, 3), 0);
+        x.place(1, 6, 0, 0, 0);
         wall(x, 5, cut(0, 0, 2));
         Check.same("20: two", x.doubt(), 33);
         wall(x, 11, cut(0, 0, 2));
@@ -291,6 +324,7 @@ public final class StoriesTest {
         mended();
         storyOrder();
         notAhead();
+        changesAreSeen();
         noNameFits();
         outNeedsOneAhead();
         stood();

@@ -56,6 +56,7 @@ public final class WallsTest {
         Check.same("7: out on out", x.cut(3, 0, 1, -1), -1);
         Check.same("7: hacked on out", x.cut(3, 0, 2, -1), -1);
         Check.same("7: first on out", x.cut(3, 0, 0, 0), -1);
+        Check.same("7: no such doing", x.cut(3, 0, 5, -1), -1);
         Check.same("7: mended with another name", x.cut(3, 0, 4, 1), -1);
         Check.same("7: mended", x.cut(3, 0, 4, 0), 2);
         Check.same("7: put in on mended", x.cut(3, 0, 3, 0), -1);
@@ -103,6 +104,9 @@ public final class WallsTest {
         x.cut(0, 1, 2, -1);
         Check.same("9: hacked over it", trace(x, 0, 0, "s..."), -1);
         x.clean(0);
+        x.cut(0, 1, 1, -1);
+        x.clean(0);
+        Check.same("9: the out over it is gone", trace(x, 0, 0, "s..."), -1);
         x.cut(0, 1, 1, -1);
         Check.same("9: an out one", trace(x, 0, 1, "s..."), -1);
         Check.same("9: no such layer", trace(x, 0, 2, "s..."), -1);

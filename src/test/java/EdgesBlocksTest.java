@@ -294,6 +294,20 @@ public final class EdgesBlocksTest {
         for (int i = 0; i < 6; i++) {
             Check.same("block " + i, x.back(i), 32 >> i);
         }
+        for (int i = 0; i < 6; i++) {
+            NamesUnder y = new NamesUnder();
+            y.block(false, i, 7, 8, 1);
+            y.block(true, 2, 7, 8, 1);
+            Check.same("in one gap", y.back(i), 4);
+            y.block(true, 4, 7, 8, 1);
+            Check.same("in two", y.back(i), 20);
+            y.block(true, 2, 7, 9, 1);
+            Check.same("in the other one", y.back(i), 16);
+            y.block(false, i, 7, 9, 1);
+            Check.same("and back", y.back(i), 4);
+            y.block(false, i, 7, 10, 1);
+            Check.same("in none", y.back(i), 0);
+        }
     }
 
     private static void counts() {
@@ -358,6 +372,23 @@ public final class EdgesBlocksTest {
         Check.same("66 cuts", x.count(2), 66);
     }
 
+    private static void lastCall() {
+        Check.says("An object is used for at most 512 calls after it has been made");
+        NamesUnder x = new NamesUnder();
+        for (int call = 1; call <= 511; call++) {
+            Check.same("call " + call, call % 2 == 1 ? x.feed(0x20L, 0L, 0L) : x.count(6), (call + 1) / 2);
+        }
+        Check.same("call 512", x.feed(0x2020L, 0L, 0L), 258);
+        NamesUnder y = Tell.named("hati");
+        Tell.wall(y, 0, 6, Tell.by(0, FIRST, 0));
+        // 3 calls have told the NAME, 2 the wall: 507 are left, of which the last one is the 512th.
+        for (int left = 507; left > 1; left -= 2) {
+            Check.same("out", y.cut(0, 1, OUT, NONE), 1);
+            Check.so("gone again", y.clean(0));
+        }
+        Check.same("call 512", y.stories(0), 6);
+    }
+
     public static void main(String[] args) {
         greatestDone();
         doneHigherUp();
@@ -373,6 +404,7 @@ public final class EdgesBlocksTest {
         backOfNone();
         counts();
         fullCounts();
+        lastCall();
         Check.end();
     }
 }

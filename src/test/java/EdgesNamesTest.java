@@ -210,6 +210,9 @@ public final class EdgesNamesTest {
         }
         Check.same("still one", x.count(0), 1);
         Check.same("what it was is free", Tell.name(x, 1, "ramesses"), 0);
+        Check.same("nothing of what it was is left", x.alike(0, 1), 0);
+        Tell.name(x, 1, "ia");
+        Check.same("ia of ramesses", x.alike(0, 1), 1);
         Check.same("two", x.count(0), 2);
         Tell.name(x, 0, "mm", 0, false);
         int[] dueThen = {0, 0, 6, 2};

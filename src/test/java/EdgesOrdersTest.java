@@ -137,6 +137,13 @@ public final class EdgesOrdersTest {
         }
         for (String deed : DEEDS) {
             sound(deed + " 0 when 1;", 1);
+            sound(lines(11) + deed + " 0 when 1;", 12);
+        }
+    }
+
+    private static void thirteenthLine() {
+        Check.says("5 one too many: DO of a 13th LINE");
+        for (String deed : DEEDS) {
             fault(lines(12) + deed, 5, 156);
             fault(lines(12) + deed + " 0 when 1;", 5, 156);
             fault(lines(12) + " \n" + deed + " 9 q", 5, 158);
@@ -360,6 +367,38 @@ public final class EdgesOrdersTest {
         Check.same("right ahead of that it is", Tell.order(x, 3, "out0when1;" + " ".repeat(989) + "q"), 1 + 16 * 999);
     }
 
+    private static void longOnes() {
+        Check.says("Without a FAULT it is the ORDER from then on");
+        NamesUnder x = named();
+        Tell.wall(x, 0, 6, Tell.by(0, Tell.FIRST, 0));
+        String ones = "1" + "+1".repeat(489);
+        for (int i = 0; i < 4; i++) {
+            Check.same("a long one", Tell.order(x, 0, HEAD + ones + "-490;"), 0);
+            Check.same("490 less 490", x.ran(0, 0), 1);
+            Check.same("another long one", Tell.order(x, 0, HEAD + ones + "-489;"), 0);
+            Check.same("490 less 489", x.ran(0, 0), 2);
+        }
+    }
+
+    private static void behindFaults() {
+        Check.says("FAULTS, kind + 16 * the place (from 0) of a token");
+        String[] texts = {HEAD + "(((1", HEAD + "not not not", HEAD + "1+2*3<(4", HEAD + "(((((1", HEAD + "1<2<", "out", "out 8", "?",
+            HEAD + "1 and 2<3+4*", lines(13), HEAD + "12345", HEAD + "not(not(1 or"};
+        for (String text : texts) {
+            NamesUnder x = named();
+            Tell.wall(x, 0, 6, Tell.by(0, Tell.FIRST, 0));
+            Check.so("a fault of " + text, Tell.order(x, 0, text) > 0);
+            Check.same("sound behind " + text, Tell.order(x, 0, HEAD + enclosed(4, 5, "1") + ";"), 0);
+            Check.same("done", x.ran(0, 0), 2);
+            Check.same("one line", x.count(3), 1);
+            Check.so("a fault of " + text, Tell.order(x, 0, text) > 0);
+            Check.same("sound behind " + text, Tell.order(x, 0, HEAD + "0;"), 0);
+            Check.same("not done", x.ran(0, 0), 1);
+            Check.so("a fault of " + text, Tell.order(x, 0, text) > 0);
+            Check.same("five behind " + text, Tell.order(x, 0, HEAD + enclosed(5, 0, "1") + ";"), 5 + 16 * 16);
+        }
+    }
+
     private static void reigns() {
         Check.says("The TAPE is read as the ORDER of a REIGN: 0; its FAULT (it stays then); -1: no such REIGN (the TAPE is empty).");
         Check.range("reign", 0, 5, v -> Tell.order(named(), v, lines(2)) == 0);
@@ -406,6 +445,7 @@ public final class EdgesOrdersTest {
         numbersOfFour();
         otherSigns();
         twelveLines();
+        thirteenthLine();
         eachReign();
         numberOfName();
         withinFive();
@@ -415,6 +455,8 @@ public final class EdgesOrdersTest {
         linesBegin();
         theEnd();
         fullTape();
+        longOnes();
+        behindFaults();
         reigns();
         staysAsItWas();
         Check.end();

@@ -196,6 +196,30 @@ public final class EdgesRunsTest {
         Check.same("each on what the last one left", x.ran(0, 5), 4);
     }
 
+    private static void doneIfItCan() {
+        Check.says("at each PLACE, by numbers, its LINES in order, each done if it can and E is not 0");
+        for (int value : new int[] {0, 1, 2, 9999}) {
+            NamesUnder x = walled(0, 6, 0, 0, 0);
+            order(x, 0, "out 0 when " + value + ";");
+            Check.same("E is " + value, x.ran(0, 0), value == 0 ? 1 : 2);
+            order(x, 0, "out 0 when 0-" + value + ";");
+            Check.same("E is less " + value, x.ran(0, 0), value == 0 ? 1 : 2);
+            order(x, 0, "out 1 when " + value + ";");
+            Check.same("it can't", x.ran(0, 0), 1);
+        }
+        NamesUnder x = walled(0, 6, 0, 0, 0);
+        order(x, 0, "put 1 when 1;out 0 when 0;out 1 when 1;hack 0 when 1;put 4 when 1;mend 1 when 1;put 2 when 1;");
+        Check.same("the fourth and the seventh", x.ran(0, 0), 3);
+        Check.same("hacked", x.made(0, 1, 1), HACKED);
+        Check.same("tuti", x.made(0, 2, 2), 2);
+        for (int lines = 1; lines <= 12; lines++) {
+            order(x, 0, "out 1 when 1;".repeat(lines - 1) + "out 0 when 1;");
+            Check.same("the last of " + lines, x.ran(0, 0), 2);
+        }
+        order(x, 0, "out 1 when 1;".repeat(11));
+        Check.same("one line less", x.ran(0, 0), 1);
+    }
+
     private static void itsHand() {
         Check.says("The CUT has as its HAND the REIGN's number.");
         NamesUnder x = walled(0, 6, 0, 0, 0);
@@ -459,6 +483,17 @@ public final class EdgesRunsTest {
         agree("no cuts on both sides", true);
         agree("another first one, with nothing done", true, Tell.by(0, FIRST, 7));
         agree("another first one, and told otherwise", false, Tell.by(0, FIRST, 7), out);
+        NamesUnder x = named();
+        order(x, 2, "out 0 when 1;put 0 when 1;out 0 when 1;mend 0 when 1;hack 0 when 1;");
+        Tell.wall(x, 11, 6, first, out, Tell.by(0, PUT_IN, 0), out, Tell.by(0, MENDED, 0), Tell.by(0, HACKED, NONE));
+        Check.same("six cuts", x.agrees(0), 2048);
+        x.clean(11);
+        Check.same("five of six", x.agrees(0), 0);
+        Tell.pile(x, 11, out);
+        Check.same("the sixth is out, not hacked", x.agrees(0), 0);
+        x.clean(11);
+        order(x, 2, "out 0 when 1;put 0 when 1;out 0 when 1;mend 0 when 1;");
+        Check.same("five", x.agrees(0), 2048);
     }
 
     private static void agreesWhats() {
@@ -521,6 +556,13 @@ public final class EdgesRunsTest {
             order(x, 2, deed + " 1 when 0;" + deed + " 0 when place;");
             Check.same("one of its lines", x.missed(2), 1);
         }
+        for (int lines = 1; lines <= 12; lines++) {
+            NamesUnder x = twelve();
+            order(x, 2, "hack 1 when 0;".repeat(lines - 1) + "out 0 when 0;");
+            Check.same("the last of " + lines, x.missed(2), 4095);
+            order(x, 2, "hack 1 when 0;".repeat(lines - 1));
+            Check.same("one line less", x.missed(2), 0);
+        }
         NamesUnder x = twelve();
         order(x, 2, "put 0 when 1;mend 0 when 1;");
         Check.same("put and mend are nothing", x.missed(2), 0);
@@ -565,6 +607,7 @@ public final class EdgesRunsTest {
         fromTheLeft();
         begins();
         reignsInOrder();
+        doneIfItCan();
         itsHand();
         outOfNames();
         cantRead();

@@ -200,6 +200,103 @@ public final class EdgesStoriesTest {
         Check.same("within six reigns", dated(z, NONE, NONE, NONE, NONE, NONE).story(0, 4), 3);
     }
 
+    interface Wall {
+        NamesUnder tell();
+    }
+
+    interface Lets {
+        boolean lets(int[] reigns);
+    }
+
+    /** Every STORY of three HANDS, told by what their REIGNS have to be, one behind the other. */
+    private static void everyStory(String what, Wall wall, int[] hands, Lets lets) {
+        int[] r = new int[6];
+        int k = 0;
+        int[] odds = new int[18];
+        for (int code = 0; code < 216; code++) {
+            r[hands[0]] = code / 36;
+            r[hands[1]] = code / 6 % 6;
+            r[hands[2]] = code % 6;
+            if (lets.lets(r)) {
+                NamesUnder x = wall.tell();
+                for (int i = 0; i < 3; i++) {
+                    Check.same(what + ", story " + k + ", hand " + hands[i], x.story(k, hands[i]), r[hands[i]]);
+                    odds[i * 6 + r[hands[i]]]++;
+                }
+                k++;
+            }
+        }
+        NamesUnder x = wall.tell();
+        Check.same(what + ", how many", x.stories(0), k);
+        Check.same(what + ", none behind the last", x.story(k, hands[0]), NONE);
+        for (int i = 0; i < 18; i++) {
+            Check.same(what + ", odds " + i, x.odds(hands[i / 6], i % 6), odds[i]);
+        }
+    }
+
+    private static void allStories() {
+        Check.says("STORIES: for each HAND that has CUTS a REIGN (DATED ones have theirs), so that at each PLACE");
+        everyStory("mended by a later hand", () -> {
+            NamesUnder x = walled(Tell.by(0, FIRST, 0), Tell.by(0, OUT, NONE), Tell.by(1, MENDED, NONE));
+            Tell.wall(x, 1, SPACE, Tell.by(2, FIRST, 0));
+            return x;
+        }, new int[] {0, 1, 2}, r -> r[0] >= 1 && r[1] > r[0]);
+        everyStory("mended by an earlier hand", () -> walled(Tell.by(5, FIRST, 0), Tell.by(1, OUT, NONE), Tell.by(0, MENDED, NONE)),
+                new int[] {0, 1, 5}, r -> r[1] >= 1 && r[1] >= r[5] && r[0] > r[1]);
+        everyStory("a hand over itself", () -> {
+            NamesUnder x = walled(Tell.by(3, FIRST, 1), Tell.by(3, OUT, NONE), Tell.by(3, PUT_IN, 2), Tell.by(2, HACKED, NONE));
+            Tell.wall(x, 1, SPACE, Tell.by(4, FIRST, 3), Tell.by(4, HACKED, NONE));
+            return x;
+        }, new int[] {2, 3, 4}, r -> r[3] >= 2 && r[2] >= r[3] && r[2] >= 3 && r[4] >= 4);
+        everyStory("two that have to be the same", () -> {
+            NamesUnder x = walled(Tell.by(5, FIRST, 1), Tell.by(3, OUT, NONE));
+            Tell.wall(x, 1, SPACE, Tell.by(3, FIRST, 0), Tell.by(5, HACKED, NONE));
+            Tell.wall(x, 2, SPACE, Tell.by(0, FIRST, 4));
+            return x;
+        }, new int[] {0, 3, 5}, r -> r[3] == r[5] && r[3] >= 2 && r[0] >= 4);
+        everyStory("mended twice", () -> walled(Tell.by(4, FIRST, 0), Tell.by(4, OUT, NONE), Tell.by(0, MENDED, NONE),
+                Tell.by(0, OUT, NONE), Tell.by(3, MENDED, NONE)),
+                new int[] {0, 3, 4}, r -> r[4] >= 1 && r[0] > r[4] && r[3] > r[0]);
+        everyStory("mended by the last hand", () -> {
+            NamesUnder x = walled(Tell.by(1, FIRST, 0), Tell.by(1, OUT, NONE), Tell.by(5, MENDED, NONE));
+            Tell.wall(x, 1, SPACE, Tell.by(0, FIRST, 0));
+            return x;
+        }, new int[] {0, 1, 5}, r -> r[1] >= 1 && r[5] > r[1]);
+        everyStory("the last hand between the others", () -> {
+            NamesUnder x = walled(Tell.by(0, FIRST, 0), Tell.by(0, OUT, NONE), Tell.by(5, MENDED, NONE));
+            Tell.wall(x, 1, SPACE, Tell.by(5, FIRST, 0), Tell.by(5, OUT, NONE), Tell.by(1, MENDED, NONE));
+            return x;
+        }, new int[] {0, 1, 5}, r -> r[0] >= 1 && r[5] > r[0] && r[1] > r[5]);
+        everyStory("one in the middle is dated", () -> {
+            NamesUnder x = walled(Tell.by(2, FIRST, 0), Tell.by(1, OUT, NONE), Tell.by(0, PUT_IN, NONE));
+            x.dated(1, 3);
+            return x;
+        }, new int[] {0, 1, 2}, r -> r[1] == 3 && r[2] <= 3 && r[0] >= 3);
+    }
+
+    private static void toldAnew() {
+        Check.says("Of the STORIES, what 0: how many, 1: HANDS that are SURE, as bits, 2: HANDS that have CUTS.");
+        Check.same("hands asked first", walled(Tell.by(5, FIRST, 0), Tell.by(2, OUT, NONE)).stories(2), 36);
+        for (int hand = 0; hand < 6; hand++) {
+            NamesUnder x = walled(Tell.by(hand, FIRST, 0));
+            Check.same("one hand", x.stories(2), 1 << hand);
+            Check.same("one each", x.odds(hand, 0), 1);
+            Tell.wall(x, 1, SPACE, Tell.by((hand + 1) % 6, FIRST, 0));
+            Check.same("six each", x.odds(hand, 0), 6);
+            x.clean(1);
+            Check.same("one each again", x.odds(hand, 0), 1);
+            Tell.pile(x, 0, Tell.by(hand, OUT, NONE), Tell.by(hand, MENDED, NONE));
+            Check.same("mended by the same hand", x.stories(0), 0);
+            x.clean(0);
+            Check.same("without that", x.stories(0), 5);
+            Check.same("not in 0", x.odds(hand, 0), 0);
+            x.clean(0);
+            Check.same("in 0 again", x.odds(hand, 0), 1);
+            x.place(0, SPACE, 0, 0, 0);
+            Check.same("no hand", x.stories(2), 0);
+        }
+    }
+
     private static void inOrder() {
         Check.says("STORIES are in order by the REIGN of the first HAND that has CUTS, then of the next one, and so on.");
         NamesUnder x = named();
@@ -260,6 +357,13 @@ public final class EdgesStoriesTest {
             NamesUnder x = walled(Tell.by(0, FIRST, name));
             Check.same("of " + (6 - name) + " reigns", x.stories(1), name == 5 ? 1 : 0);
         }
+        for (int reign = 0; reign < 6; reign++) {
+            NamesUnder y = twoHands(reign, NONE);
+            Check.same("dated " + reign, y.stories(1), 1);
+        }
+        NamesUnder z = walled(Tell.by(0, FIRST, 0), Tell.by(1, OUT, NONE));
+        z.dated(1, 1);
+        Check.same("in 0 or 1", z.stories(1), 2);
         NamesUnder x = walled(Tell.by(0, FIRST, 4), Tell.by(5, OUT, NONE));
         Check.same("out in 5 alone", x.stories(1), 32);
         Check.same("two stories", x.stories(0), 2);
@@ -365,6 +469,11 @@ public final class EdgesStoriesTest {
         }
         NamesUnder x = dated(walled(Tell.by(0, FIRST, 2)), 4);
         Check.same("known", x.stood(0, 0), 4);
+        NamesUnder y = walled(Tell.by(0, FIRST, NONE), Tell.by(1, OUT, NONE));
+        Tell.traces(y, 0, 0, ".c");
+        Check.same("by its traces", y.stood(0, 0), 4);
+        Tell.traces(y, 0, 0, "..");
+        Check.same("by its traces", y.stood(0, 0), names(4, 6));
     }
 
     private static void stoodBelow() {
@@ -406,6 +515,10 @@ public final class EdgesStoriesTest {
         Check.same("no story", y.stood(0, 0), NONE);
         y.clean(11);
         Check.same("a story again", y.stood(0, 0), 1);
+        NamesUnder z = walled(Tell.by(0, FIRST, NONE), Tell.by(1, OUT, NONE));
+        Check.same("all but the last", z.stood(0, 0), names(4, 6));
+        Check.same("asking changes nothing", z.between(0, 1), 3);
+        Check.same("nor how many there are", z.stories(0), 20);
         Check.same("no cut", y.stood(11, 0), NONE);
     }
 
@@ -437,6 +550,13 @@ public final class EdgesStoriesTest {
         Check.same("not a dated one", x.next(0), 5);
         NamesUnder y = walled(Tell.by(2, FIRST, 5));
         Check.same("sure, but not dated", y.next(0) * 10 + y.next(1), 21);
+        // HAND 1 is most often in 0 or 1 (5 of 20), HAND 0 in 5 (6 of 20).
+        NamesUnder z = walled(Tell.by(1, FIRST, 0), Tell.by(0, OUT, NONE));
+        Check.same("by its most", z.next(0) * 10 + z.next(1), 15);
+        Tell.name(z, 0, "zz", 1, false);
+        Tell.wall(z, 0, SPACE, Tell.by(0, FIRST, 0), Tell.by(1, OUT, NONE));
+        // HAND 0 in 1 .. 5: 4, 4, 3, 2, 1; HAND 1 in 2 .. 5: 2, 3, 4, 5.
+        Check.same("by the most of another reign", z.next(0) * 10 + z.next(1), 4);
     }
 
     private static void nextOfNone() {
@@ -547,6 +667,8 @@ public final class EdgesStoriesTest {
         goneNames();
         goneNotBehindBelow();
         mendedBehind();
+        allStories();
+        toldAnew();
         inOrder();
         kThStory();
         whats();

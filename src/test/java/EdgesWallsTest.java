@@ -44,6 +44,11 @@ public final class EdgesWallsTest {
             Check.same("still one place", x.count(1), 1);
             Check.same("first again", x.cut(0, 5, FIRST, 0), 0);
         }
+        NamesUnder x = full(2);
+        Tell.traces(x, 0, 0, "t...");
+        Check.same("by its traces", x.fits(0, 0), 0);
+        Tell.wall(x, 0, 6, Tell.by(0, FIRST, 0), Tell.by(0, OUT, NONE));
+        Check.same("they are gone, too", x.fits(0, 0), 1);
     }
 
     /** PLACE 0 of SPACE 6 with so many CUTS of hati by HAND 0: FIRST, OUT, PUT IN, OUT, MENDED, HACKED. */
@@ -100,6 +105,49 @@ public final class EdgesWallsTest {
         Tell.name(x, 7, "last");
         Check.same("told", x.cut(0, 0, PUT_IN, 7), 2);
         Check.same("and kept", x.layer(0, 2, 2), 7);
+    }
+
+    private static void whatACutHas() {
+        Check.says("A CUT is by a HAND (0 to 5), a DOING: 0 FIRST, 1 OUT along an edge, 2 HACKED out, 3 PUT IN, 4 MENDED; of 0, 3 and 4 it "
+                + "has a NAME, or one not known (NONE); of 1, 2 none.");
+        for (int hand = 0; hand < 6; hand++) {
+            for (int doing = 0; doing < 5; doing++) {
+                for (int name = -1; name < 2; name++) {
+                    NamesUnder x = Tell.named("hati", "hato");
+                    Tell.wall(x, 0, 6);
+                    int layer = doing == FIRST ? 0 : doing <= HACKED ? 1 : 2;
+                    if (layer > 0) {
+                        x.cut(0, 0, FIRST, NONE);
+                    }
+                    if (layer > 1) {
+                        x.cut(0, 0, OUT, NONE);
+                    }
+                    boolean has = name == NONE || layer != 1;
+                    Check.same("cut " + hand + " " + doing + " " + name, x.cut(0, hand, doing, name), has ? layer : NONE);
+                    Check.same("so many", x.count(2), has ? layer + 1 : layer);
+                    if (has) {
+                        Check.same("hand", x.layer(0, layer, 0), hand);
+                        Check.same("doing", x.layer(0, layer, 1), doing);
+                        Check.same("name", x.layer(0, layer, 2), name);
+                    }
+                }
+            }
+        }
+    }
+
+    private static void refusedCuts() {
+        Check.says("6 lie there, it does not LIE so, a MENDED NAME that is not that below.");
+        NamesUnder x = full(6);
+        Check.same("six lie there", x.cut(0, 0, PUT_IN, 0), NONE);
+        Check.same("six lie there", x.cut(0, 0, MENDED, 0), NONE);
+        x.clean(0);
+        Check.same("it does not lie so", x.cut(0, 0, PUT_IN, 0), NONE);
+        Check.same("it does not lie so", x.cut(0, 0, MENDED, 0), NONE);
+        Check.same("it does not lie so", x.cut(0, 0, FIRST, 0), NONE);
+        x.clean(0);
+        Check.same("a mended name not that below", x.cut(0, 0, MENDED, 1), NONE);
+        Check.same("four are left", x.count(2), 4);
+        Check.same("that below", x.cut(0, 0, MENDED, 0), 4);
     }
 
     /** Whether a CUT lies at a PLACE of which all others are told, too. */
@@ -425,6 +473,15 @@ public final class EdgesWallsTest {
         }
         Tell.traces(y, 0, 0, ".......");
         Check.same("known, but of one place less", y.fits(0, 0), 0);
+        NamesUnder z = Tell.named("hat");
+        Tell.wall(z, 0, 6, Tell.by(0, FIRST, NONE), Tell.by(0, OUT, NONE));
+        for (String text : new String[] {"hatixxxx", "hat", "hatx", ".a.", "........", "..."}) {
+            Tell.traces(z, 0, 0, text);
+            Check.same("longer and shorter ones, " + text, z.fits(0, 0), text.length() == 3 ? 1 : 0);
+        }
+        Tell.name(z, 0, "hatjfijl");
+        Tell.name(z, 0, "hat");
+        Check.same("a longer and a shorter name", z.fits(0, 0), 1);
     }
 
     private static void itsName() {
@@ -486,6 +543,8 @@ public final class EdgesWallsTest {
         placeAnew();
         sixCuts();
         cutRanges();
+        whatACutHas();
+        refusedCuts();
         liesSo();
         mendedNames();
         topmostGoes();

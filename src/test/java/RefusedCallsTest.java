@@ -147,7 +147,7 @@ public final class RefusedCallsTest {
         List<Integer> stories = askStories(scene.make());
         List<Integer> run = askRun(scene.make());
         for (Named d : deeds) {
-            NamesUnder[] x = {scene.make(), scene.make(), scene.make()};
+            NamesUnder[] x = {scene.make(), scene.make(), scene.make(), scene.make()};
             // What was found out before the call has to hold behind it, too.
             x[1].stories(0);
             x[2].agrees(0);
@@ -157,6 +157,7 @@ public final class RefusedCallsTest {
             Check.so("walls behind " + d.what, askWalls(x[0]).equals(walls));
             Check.so("stories behind " + d.what, askStories(x[1]).equals(stories));
             Check.so("the run behind " + d.what, askRun(x[2]).equals(run));
+            Check.so("stories, not asked before, behind " + d.what, askStories(x[3]).equals(stories));
         }
     }
 

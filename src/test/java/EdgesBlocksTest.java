@@ -76,11 +76,20 @@ public final class EdgesBlocksTest {
             far("stands at " + height, x, 3, 0, NONE, height, 0, 4);
             far("the other name", x, 3, 1, NONE, NONE, 0, 0);
         }
+        int[][] orders = {{49, 50, 51}, {49, 51, 50}, {50, 49, 51}, {50, 51, 49}, {51, 49, 50}, {51, 50, 49}};
+        for (int[] heights : orders) {
+            NamesUnder y = named();
+            for (int i = 0; i < 3; i++) {
+                wall(y, 5 * i, heights[i], i, Tell.by(0, FIRST, 0));
+                wall(y, 5 * i + 1, heights[i], i, Tell.by(0, FIRST, 1), Tell.by(2, OUT, NONE));
+            }
+            far("the least of three", y, 2, 0, NONE, 49, 0, 7);
+            far("the greatest of three", y, 2, 1, 51, NONE, 7, 0);
+        }
         NamesUnder x = named();
         wall(x, 0, 50, 0, Tell.by(0, FIRST, 0));
         wall(x, 11, 49, 1, Tell.by(0, FIRST, 0));
         wall(x, 5, 51, 2, Tell.by(0, FIRST, 0));
-        far("the least of three", x, 0, 0, NONE, 49, 0, 7);
         wall(x, 6, 0, 3, Tell.by(0, FIRST, NONE));
         far("not known", x, 0, 0, NONE, 49, 0, 7);
         wall(x, 6, 0, 3, Tell.by(0, FIRST, 0), Tell.by(1, OUT, NONE));

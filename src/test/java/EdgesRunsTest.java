@@ -370,6 +370,29 @@ public final class EdgesRunsTest {
         }
     }
 
+    private static void everyPlace() {
+        Check.says("at each PLACE, by numbers, its LINES in order, each done if it can and E is not 0");
+        NamesUnder x = named();
+        for (int place = 0; place < 12; place++) {
+            x.place(place, 7 + place, place, place % 4, 0);
+            Tell.pile(x, place, Tell.by(0, FIRST, place % 3));
+        }
+        order(x, 0, "out 0 when 1;hack 1 when 1;");
+        order(x, 2, "mend 0 when place<6;mend 1 when 1;put 3 when 1;");
+        order(x, 4, "hack 3 when height=9 or sort=0;put 2 when space=19;");
+        // hati at 0, 3, 6, 9: mended at 0 and 3, hat put in at 6 and 9, which is hacked at 9; hato is mended; tuti stays.
+        int[] sizes = {3, 3, 1, 3, 3, 1, 3, 3, 1, 4, 3, 1};
+        int[] doings = {4, 4, 0, 4, 4, 0, 3, 4, 0, 2, 4, 0};
+        int[] names = {0, 1, 2, 0, 1, 2, 3, 1, 2, NONE, 1, 2};
+        for (int place = 0; place < 12; place++) {
+            Check.same("cuts at " + place, x.ran(place, 5), sizes[place]);
+            Check.same("ahead of the last order at " + place, x.ran(place, 3), Math.min(3, sizes[place]));
+            Check.same("doing at " + place, x.made(place, sizes[place] - 1, 1), doings[place]);
+            Check.same("name at " + place, x.made(place, sizes[place] - 1, 2), names[place]);
+        }
+        Check.same("together", x.agrees(2), 29);
+    }
+
     private static void ladders() {
         Check.says("a LADDER (0 to 99 for each REIGN; 99 at first) not below the HEIGHT is wanted for all.");
         for (int height : new int[] {0, 1, 2, 49, 50, 98, 99}) {
@@ -614,6 +637,7 @@ public final class EdgesRunsTest {
         putWidths();
         mendLikewise();
         sixCuts();
+        everyPlace();
         ladders();
         works();
         ranOfNone();

@@ -122,6 +122,15 @@ public final class EdgesStoriesTest {
         }
         stories("none fits first", walled(Tell.by(0, FIRST, WIDE)), false);
         stories("none fits put in", walled(Tell.by(0, FIRST, 0), Tell.by(1, OUT, NONE), Tell.by(2, PUT_IN, WIDE)), false);
+        for (int name = 0; name < 8; name++) {
+            NamesUnder y = new NamesUnder();
+            Tell.name(y, name, "aa", 3, false);
+            Tell.wall(y, 11, SPACE, Tell.by(0, FIRST, NONE), Tell.by(5, OUT, NONE));
+            Check.same("by name " + name + " alone, first", y.odds(0, 3), 2);
+            Check.same("by name " + name + " alone, out", y.odds(5, 3), 0);
+            Check.same("by name " + name + " alone, out", y.odds(5, 4), 2);
+            Check.same("name " + name + " stood", y.stood(11, 0), 1 << name);
+        }
         NamesUnder x = new NamesUnder();
         Tell.wall(x, 0, SPACE, Tell.by(0, FIRST, NONE));
         stories("without names", x, false);
@@ -515,10 +524,13 @@ public final class EdgesStoriesTest {
         Check.same("no story", y.stood(0, 0), NONE);
         y.clean(11);
         Check.same("a story again", y.stood(0, 0), 1);
-        NamesUnder z = walled(Tell.by(0, FIRST, NONE), Tell.by(1, OUT, NONE));
-        Check.same("all but the last", z.stood(0, 0), names(4, 6));
-        Check.same("asking changes nothing", z.between(0, 1), 3);
-        Check.same("nor how many there are", z.stories(0), 20);
+        for (int hand = 0; hand < 6; hand++) {
+            int other = (hand + 1) % 6;
+            NamesUnder z = walled(Tell.by(hand, FIRST, NONE), Tell.by(other, OUT, NONE));
+            Check.same("all but the last", z.stood(0, 0), names(4, 6));
+            Check.same("asking changes nothing", z.between(hand, other), 3);
+            Check.same("nor how many there are", z.stories(0), 20);
+        }
         Check.same("no cut", y.stood(11, 0), NONE);
     }
 
@@ -649,11 +661,22 @@ public final class EdgesStoriesTest {
         Check.same("none of two", x.doubt(), NONE);
         Check.same("and no story", x.stories(0), 0);
         Check.same("hands as before", x.stories(2), 7);
-        NamesUnder y = walled(Tell.by(0, FIRST, NONE), Tell.by(1, OUT, NONE));
-        Tell.traces(y, 0, 0, "zz");
-        Check.same("traces of no name", y.stories(0), 0);
-        Check.same("they go with the out", y.doubt(), 1);
-        Check.same("but they are there", y.fits(0, 0), 0);
+        for (int place = 0; place < 12; place++) {
+            NamesUnder y = named();
+            Tell.wall(y, place, SPACE, Tell.by(0, FIRST, NONE), Tell.by(1, OUT, NONE));
+            Tell.traces(y, place, 0, "zz");
+            Check.same("traces of no name", y.stories(0), 0);
+            Check.same("they go with the out", y.doubt(), 1 << place);
+            Check.same("but they are there", y.fits(place, 0), 0);
+            Tell.wall(y, place, SPACE, Tell.by(0, FIRST, NONE), Tell.by(1, OUT, NONE), Tell.by(2, PUT_IN, NONE), Tell.by(3, OUT, NONE));
+            Tell.traces(y, place, 2, "zz");
+            Check.same("traces of no name", y.stories(0), 0);
+            Check.same("they go with the upper out", y.doubt(), 1 << place);
+            Tell.traces(y, place, 2, "aa");
+            Tell.traces(y, place, 0, "zz");
+            Check.same("traces of no name", y.stories(0), 0);
+            Check.same("they don't go with the upper out", y.doubt(), NONE);
+        }
         NamesUnder z = dated(walled(Tell.by(0, FIRST, 3)), 2);
         Check.same("dated too far ahead", z.doubt(), 1);
     }

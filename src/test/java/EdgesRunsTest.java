@@ -364,6 +364,7 @@ public final class EdgesRunsTest {
             Check.same("together", x.agrees(2), due);
             Check.so("the topmost", x.made(0, due - 1, 1) != NONE);
             Check.same("none over it", x.made(0, due, 1), NONE);
+            Check.same("what is not done is no slip", x.agrees(1), 0);
             order(x, 1, "out 0 when 1;put 0 when 1;mend 0 when 1;");
             Check.so("six in the next reign", x.ran(0, 1) <= 6);
             Check.same("six in the next reign", x.ran(0, 1), Math.min(6, due + (due % 2 == 1 ? 2 : 1)));

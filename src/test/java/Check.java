@@ -18,18 +18,22 @@ final class Check {
     static void says(String words) {
         sentences++;
         sentence = "\"" + words + "\" ";
-        if (document == null) {
-            document = readDocument();
-        }
-        so("these are words of the document", document.isEmpty() || document.contains(words));
+        so("these are words of the document", document().isEmpty() || document().contains(words));
     }
 
     /** The document with single blanks; empty if it can't be found from here. */
+    static String document() {
+        if (document == null) {
+            document = readDocument();
+        }
+        return document;
+    }
+
     private static String readDocument() {
         try {
             return Files.readString(DOCUMENT).replaceAll("\\s+", " ");
         } catch (java.io.IOException e) {
-            System.out.println("no " + DOCUMENT + ": the words of the tests are not held against it");
+            System.out.println("no " + DOCUMENT + ": the tests are not held against it");
             return "";
         }
     }

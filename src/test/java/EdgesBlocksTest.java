@@ -146,6 +146,19 @@ public final class EdgesBlocksTest {
         far("no such hand", y, -1, 0, NONE, NONE, NONE, NONE);
     }
 
+    private static void farWhats() {
+        Check.says("HOW FAR, what 0: the greatest HEIGHT done, 1: the least where it stands, 2: SORTS done, 3: SORTS where it stands");
+        NamesUnder x = named();
+        wall(x, 0, 30, 0, Tell.by(0, FIRST, 0), Tell.by(1, OUT, NONE));
+        wall(x, 1, 40, 1, Tell.by(0, FIRST, 0), Tell.by(1, HACKED, NONE));
+        wall(x, 2, 35, 2, Tell.by(0, FIRST, 0));
+        wall(x, 3, 45, 3, Tell.by(0, FIRST, 0));
+        far("two done, two left", x, 1, 0, 40, 35, 3, 12);
+        far("another hand's part", x, 2, 0, NONE, 35, 0, 12);
+        wall(x, 4, 10, 1, Tell.by(0, FIRST, 0), Tell.by(1, OUT, NONE), Tell.by(2, MENDED, 0));
+        far("done and mended: it stands, too", x, 1, 0, 40, 10, 3, 14);
+    }
+
     private static void blockRanges() {
         Check.says("BLOCKS 0 to 5 have a left and a right EDGE (0 to 999) and a course (0 to 9), GAPS 0 to 5 likewise.");
         for (boolean gap : new boolean[] {false, true}) {
@@ -169,7 +182,7 @@ public final class EdgesBlocksTest {
     }
 
     private static void wornAndRefused() {
-        Check.says("EDGES (0 of a BLOCK: WORN), course: true; false: others (a GAP's EDGE 0).");
+        Check.says("A BLOCK (gap false) or a GAP (true): EDGES (0 of a BLOCK: WORN), course: true; false: others (a GAP's EDGE 0).");
         NamesUnder x = new NamesUnder();
         Check.not("a gap's left edge", x.block(true, 0, 0, 1, 0));
         Check.not("a gap's right edge", x.block(true, 0, 1, 0, 0));
@@ -404,6 +417,7 @@ public final class EdgesBlocksTest {
         leastLeft();
         sorts();
         farOfNone();
+        farWhats();
         blockRanges();
         wornAndRefused();
         fitsGap();

@@ -167,16 +167,24 @@ public final class EdgesNamesTest {
     }
 
     private static void blanksAround() {
-        Check.says("if it is one WORD (blanks around it are nothing)");
+        Check.says("The TAPE, if it is one WORD (blanks around it are nothing)");
         String[] sound = {"seti", " seti", "seti ", "\nseti", "seti\n", " \n seti \n ", " ".repeat(996) + "seti"};
         for (String s : sound) {
             Check.same("'" + s + "'", Tell.name(new NamesUnder(), 3, s), 0);
         }
+    }
+
+    private static void notOneWord() {
+        Check.says("1: it is not one WORD");
         String[] none = {"", " ", "\n", " \n ", "se ti", "se\nti", "s e", "seti a", "a seti", "seti\n.", "; seti"};
+        NamesUnder told = new NamesUnder();
+        Tell.name(told, 3, "seti", 2, true);
         for (String s : none) {
             NamesUnder x = new NamesUnder();
             Check.same("'" + s + "'", Tell.name(x, 3, s), 1);
             Check.same("nothing is told", x.count(0), 0);
+            Check.same("'" + s + "' for a name that is told", Tell.name(told, 3, s, 5, false), 1);
+            Check.same("it is as it was", told.known(3, 0) * 100 + told.known(3, 1) * 10 + told.known(3, 3), 214);
         }
     }
 
@@ -238,6 +246,26 @@ public final class EdgesNamesTest {
         }
     }
 
+    private static void heOrShe() {
+        Check.says("NAMES 0 to 7: WORDS of letters a .. z, 1 to 8, all different, each he or she");
+        for (int pattern = 0; pattern < 256; pattern++) {
+            NamesUnder x = new NamesUnder();
+            for (int i = 0; i < 8; i++) {
+                Tell.name(x, i, "s" + (char) ('a' + i), 0, (pattern >> i & 1) == 1);
+            }
+            for (int i = 0; i < 8; i++) {
+                Check.same("she " + i + " of " + pattern, x.known(i, 1), pattern >> i & 1);
+            }
+        }
+        NamesUnder x = Tell.named("sa", "sb", "sc", "sd", "se", "sf", "sg", "sh");
+        for (int i = 0; i < 8; i++) {
+            for (int other = 0; other < 8; other++) {
+                int due = i == other ? 0 : 2;
+                Check.same("name " + i + " as " + other, Tell.name(x, i, "s" + (char) ('a' + other)), due);
+            }
+        }
+    }
+
     private static void eightNames() {
         Check.says("each of a REIGN 0 to 5 (in which it was a king's; several may be)");
         for (int reign = 0; reign < 6; reign++) {
@@ -270,7 +298,7 @@ public final class EdgesNamesTest {
     }
 
     private static void known() {
-        Check.says("3: how many letters; NONE: not told, others.");
+        Check.says("Of a NAME, what 0: its REIGN, 1: 1 she, 0 he, 2: WIDTH, 3: how many letters; NONE: not told, others.");
         NamesUnder x = new NamesUnder();
         for (int i = 0; i < 8; i++) {
             Tell.name(x, i, "a".repeat(i + 1));
@@ -286,6 +314,10 @@ public final class EdgesNamesTest {
             for (int what = 0; what < 4; what++) {
                 Check.same("known " + i + " " + what, y.known(i, what), i != 4 ? NONE : new int[] {3, 1, 6, 4}[what]);
             }
+        }
+        Tell.name(y, 4, "seti", 0, false);
+        for (int what = 0; what < 4; what++) {
+            Check.same("he, of reign 0, what " + what, y.known(4, what), new int[] {0, 0, 6, 4}[what]);
         }
     }
 
@@ -373,9 +405,11 @@ public final class EdgesNamesTest {
         takesTheTape();
         oneWord();
         blanksAround();
+        notOneWord();
         allDifferent();
         anew();
         numbersAndReigns();
+        heOrShe();
         eightNames();
         widths();
         known();

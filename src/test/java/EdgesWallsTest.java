@@ -239,7 +239,8 @@ public final class EdgesWallsTest {
     }
 
     private static void tracesRead() {
-        Check.says("letters and full stops (none to be seen), 1 to 8, blanks around are nothing: 0; 1: it is not so");
+        Check.says("The TAPE is read as TRACES of a CUT: letters and full stops (none to be seen), 1 to 8, blanks around are "
+                + "nothing: 0; 1: it is not so");
         for (int size = 0; size <= 12; size++) {
             int due = size >= 1 && size <= 8 ? 0 : 1;
             Check.same("stops " + size, Tell.traces(full(2), 0, 0, ".".repeat(size)), due);
@@ -484,6 +485,51 @@ public final class EdgesWallsTest {
         Check.same("a longer and a shorter name", z.fits(0, 0), 1);
     }
 
+    private static void asManyPlaces() {
+        Check.says("at each of its letters' places a letter, or none to be seen; as many places as the NAME had letters.");
+        NamesUnder x = new NamesUnder();
+        for (int i = 0; i < 8; i++) {
+            Tell.name(x, i, "abcdefgh".substring(0, i + 1));
+        }
+        Tell.wall(x, 0, 24, Tell.by(0, FIRST, NONE), Tell.by(0, OUT, NONE), Tell.by(0, PUT_IN, NONE), Tell.by(0, OUT, NONE));
+        Check.same("without traces", x.fits(0, 2), 255);
+        for (int size = 1; size <= 8; size++) {
+            for (int seen = 0; seen < 1 << size; seen++) {
+                StringBuilder text = new StringBuilder();
+                for (int at = 0; at < size; at++) {
+                    text.append((seen >> at & 1) == 1 ? "abcdefgh".charAt(at) : '.');
+                }
+                Check.same("told " + text, Tell.traces(x, 0, 2, text.toString()), 0);
+                Check.same("only the one of " + size, x.fits(0, 2), 1 << (size - 1));
+            }
+        }
+    }
+
+    /** NAME 0 as FIRST, OUT over it with TRACES; what is asked of it is right but for what the call changes. */
+    private static int firstFits(int name, String traces, int space, int grammar) {
+        NamesUnder x = new NamesUnder();
+        Tell.name(x, 0, "hatsu", 0, true);
+        Tell.name(x, 1, "hatsi", 0, true);
+        x.place(0, space, 0, 0, grammar);
+        Tell.pile(x, 0, Tell.by(0, FIRST, name), Tell.by(0, OUT, NONE));
+        Tell.traces(x, 0, 0, traces);
+        return x.fits(0, 0) & 1;
+    }
+
+    private static void fitsIfAllIsSo() {
+        Check.says("A NAME FITS a CUT (of 0, 3, 4) if all this is so");
+        Check.same("all is so", firstFits(0, "h...u", 9, 2), 1);
+        Check.same("not known", firstFits(NONE, "h...u", 9, 2), 1);
+        Check.same("but for its name", firstFits(1, "h...u", 9, 2), 0);
+        Check.same("but for a letter seen", firstFits(0, "h...i", 9, 2), 0);
+        Check.same("but for how many letters", firstFits(0, "h...", 9, 2), 0);
+        Check.same("but for the space", firstFits(0, "h...u", 8, 2), 0);
+        Check.same("but for the space less 4", firstFits(0, "h...u", 14, 2), 0);
+        Check.same("the space less 4", firstFits(0, "h...u", 13, 2), 1);
+        Check.same("but for the grammar", firstFits(0, "h...u", 9, 1), 0);
+        Check.same("no grammar", firstFits(0, "h...u", 9, 0), 1);
+    }
+
     private static void itsName() {
         Check.says("it is its NAME, or that is not known");
         NamesUnder x = new NamesUnder();
@@ -558,6 +604,8 @@ public final class EdgesWallsTest {
         putInWidths();
         mendedFits();
         tracesFit();
+        asManyPlaces();
+        fitsIfAllIsSo();
         itsName();
         fitsOfNone();
         crowded();

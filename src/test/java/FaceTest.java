@@ -4,8 +4,11 @@ import java.lang.reflect.Method;
 import java.lang.reflect.Modifier;
 import java.util.Arrays;
 import java.util.List;
+import java.util.NoSuchElementException;
 import java.util.Set;
 import java.util.TreeSet;
+import java.util.regex.Matcher;
+import java.util.regex.Pattern;
 import java.util.stream.Collectors;
 
 /** The class has the document's face and nothing else that can be seen (LANGUAGE.md, rules 1, 2 and 11). */
@@ -22,6 +25,29 @@ public final class FaceTest {
     private static String shown(Method m) {
         String args = Arrays.stream(m.getParameterTypes()).map(Class::getName).collect(Collectors.joining(","));
         return m.getReturnType().getName() + " " + m.getName() + "(" + args + ")";
+    }
+
+    /** The methods that the document's face shows, without the names of what they take. */
+    private static Set<String> documentsFace() {
+        Set<String> face = new TreeSet<>();
+        Matcher shown = Pattern.compile("public (int|boolean) (\\w+)\\(([^)]*)\\)").matcher(Check.document());
+        while (shown.find()) {
+            String types = shown.group(3).replaceAll(" \\w+(, |$)", "$1").replace(", ", ",");
+            face.add(shown.group(1) + " " + shown.group(2) + "(" + types + ")");
+        }
+        return face;
+    }
+
+    private static void checkDocument() {
+        Check.so("the document's face: " + documentsFace(),
+                Check.document().isEmpty() || documentsFace().equals(new TreeSet<>(FACE)));
+        Check.says("The constants: `NONE = -1`: None.");
+        Check.same("NONE", NamesUnder.NONE, -1);
+        Check.says("public int layer(int place, int layer, int what) throws NoSuchElementException;");
+        for (Method m : NamesUnder.class.getDeclaredMethods()) {
+            boolean throwing = Arrays.asList(m.getExceptionTypes()).contains(NoSuchElementException.class);
+            Check.so(m + " tells what it throws", throwing == m.getName().equals("layer"));
+        }
     }
 
     private static void checkMethods() {
@@ -70,8 +96,8 @@ public final class FaceTest {
         for (Field f : NamesUnder.class.getDeclaredFields()) {
             Check.so(f + " is private but for NONE", Modifier.isPrivate(f.getModifiers()) || f.getName().equals("NONE"));
         }
-        Check.same("NONE", NamesUnder.NONE, -1);
         checkClasses();
+        checkDocument();
         Check.end();
     }
 }
